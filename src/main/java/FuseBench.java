@@ -731,25 +731,25 @@ public final class FuseBench {
         private final int[] names = new int[MOST_KINDS];
 
         int count(Table a, Table b) {
-            return a.kinds == b.kinds ? countFrom(a, b, 1, 1) : 0;
+            return a.kinds == b.kinds ? countFrom(a, b, names, 1, 1) : 0;
         }
 
         /** Names KINDS from a given one on, which is the depth too; KIND 0 keeps its name. */
-        private int countFrom(Table a, Table b, int kind, int used) {
+        private static int countFrom(Table a, Table b, int[] names, int kind, int used) {
             if (kind >= a.kinds) {
-                return alike(a, b) ? 1 : 0;
+                return alike(a, b, names) ? 1 : 0;
             }
             int count = 0;
             for (int name = 1; name < a.kinds; name++) {
                 if ((used >> name & 1) == 0) {
                     names[kind] = name;
-                    count += countFrom(a, b, kind + 1, used | 1 << name);
+                    count += countFrom(a, b, names, kind + 1, used | 1 << name);
                 }
             }
             return count;
         }
 
-        private boolean alike(Table a, Table b) {
+        private static boolean alike(Table a, Table b, int[] names) {
             for (int i = 0; i < a.kinds; i++) {
                 for (int j = 0; j < a.kinds; j++) {
                     for (int k = 0; k < a.kinds; k++) {
