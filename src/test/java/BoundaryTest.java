@@ -1164,6 +1164,10 @@ public final class BoundaryTest {
       times(3, 3).accept(x);
       x.together(0, 1, 0);
     }, FuseBench::size, 185, 0);
+    taken("26.46.., table", x -> {
+      times(9, 1).accept(x);
+      x.together(0, 1, 0);
+    }, FuseBench::size, 264, 0);
     noIfNotRight("table 0", x -> x.size(0));
     due("RIGHT again by one put", x -> {
       breakLaw(x, 4);
