@@ -26,7 +26,15 @@ public final class FaceTest {
   private static final String[] RULED_OUT = {
       "\\bthrows?\\b", "\\btry\\b", "\\bcatch\\b", "\\bsynchronized\\b", "\\bassert\\b", "->", "::",
       "\\w+Exact\\b", "\\bpackage\\b", "\\bvar\\b", "\\bObject\\b", "\\bdouble\\b", "\\bfloat\\b",
-      "\\bimport (?!java\\.util\\.Arrays;)", "\\bstatic \\{"};
+      "\\bimport (?!java\\.util\\.Arrays;)", "\\bstatic \\{", "\\bequals\\b", "\\bhashCode\\b",
+      "\\btoString\\b", "[^\\x00-\\xff]"};
+  // Of what LANGUAGE.md leaves, that which makes no new array: no call may make one.
+  private static final Set<String> LIBRARY = new TreeSet<>(Arrays.asList(
+      "Arrays.fill", "System.arraycopy", "Math.max", "Math.min", "Math.abs", "Integer.bitCount"));
+  private static final Pattern LIBRARY_CALL =
+      Pattern.compile("\\b(Arrays|System|Math|Integer|Long|String|Runtime|Thread|Character)\\.\\w+");
+  private static final Pattern METHOD_HEAD = Pattern.compile("( +)[\\w\\[\\] ]+\\([^;=]*\\{");
+  private static final int LONGEST_METHOD = 60;
 
   private static int wrong = 0;
 
@@ -84,11 +92,46 @@ public final class FaceTest {
       hold(Modifier.isStatic(inside.getModifiers()) && !Modifier.isPublic(inside.getModifiers())
           && !Modifier.isProtected(inside.getModifiers()), inside + " is static and not public");
       hold(inside.getDeclaredFields().length <= 20, inside + " has few fields");
+      lookAtStatics(inside);
       for (Method m : inside.getDeclaredMethods()) {
         hold(!openNames.contains(m.getName()), inside + " has no method named " + m.getName());
         hold(m.getParameterCount() <= 7, m + " has at most seven parameters");
       }
     }
+  }
+
+  private static void lookAtStatics(Class<?> inside) {
+    for (Field f : inside.getDeclaredFields()) {
+      boolean constant = Modifier.isFinal(f.getModifiers())
+          && (f.getType() == int.class || f.getType() == long.class);
+      hold(!Modifier.isStatic(f.getModifiers()) || constant, f + " is a constant");
+    }
+    hold(inside.isEnum() || inside.isInterface() || Modifier.isFinal(inside.getModifiers()),
+        inside + " has no method that could be overridden");
+  }
+
+  private static void lookAtLibrary(String code) {
+    Matcher call = LIBRARY_CALL.matcher(code);
+    while (call.find()) {
+      hold(LIBRARY.contains(call.group()), "LANGUAGE.md leaves this of the library: " + call.group());
+    }
+  }
+
+  /** A method ends where a brace stands as far in as its head does. */
+  private static void lookAtLengths(String[] lines) {
+    int methods = 0;
+    for (int at = 0; at < lines.length; at++) {
+      Matcher head = METHOD_HEAD.matcher(lines[at]);
+      if (head.matches() && !lines[at].matches(" *(for|if|while|switch|\\} else).*")) {
+        int end = at + 1;
+        while (end < lines.length && !lines[end].equals(head.group(1) + "}")) {
+          end++;
+        }
+        methods++;
+        hold(end - at <= LONGEST_METHOD, "a short method: " + lines[at].trim());
+      }
+    }
+    hold(methods > METHODS.size(), "methods are found in the source: " + methods);
   }
 
   private static void lookAtSource() throws IOException {
@@ -98,6 +141,8 @@ public final class FaceTest {
       Matcher found = Pattern.compile(ruledOut).matcher(code);
       hold(!found.find(), "the source is clear of " + ruledOut);
     }
+    lookAtLibrary(code);
+    lookAtLengths(code.split("\n"));
     for (String line : code.split("\n")) {
       // Nothing is made by a call: all rows are fields, made with the object.
       boolean made = line.contains(" new ");

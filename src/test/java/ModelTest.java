@@ -17,6 +17,7 @@ public final class ModelTest {
   private static final int NONE = -1, BAD = -2, NO = -3;
 
   private static int wrong = 0;
+  private static int rankFive = 0;
 
   /** The model: tables as arrays of just their rank. */
   private static final class Model {
@@ -809,6 +810,110 @@ public final class ModelTest {
     }
   }
 
+  /** The greatest RANK, which no list has: all RIGHT tables within a bound, for these PARTNERS. */
+  private static void allOfRankFive(int most, int... partners) {
+    int[][][] n = Model.fresh(5);
+    List<List<int[]>> tied = new ArrayList<>();
+    boolean[][][] seen = new boolean[5][5][5];
+    for (int i = 1; i < 5; i++) {
+      n[i][partners[i]][0] = 1;
+      for (int j = 1; j < 5; j++) {
+        for (int k = 1; k < 5; k++) {
+          if (!seen[i][j][k]) {
+            tied.add(new ArrayList<>());
+            tie(tied.get(tied.size() - 1), seen, partners, i, j, k);
+          }
+        }
+      }
+    }
+    fillTied(n, most, tied, 0);
+  }
+
+  /** Gathers the places that laws 2 and 4 hold to one number. */
+  private static void tie(List<int[]> places, boolean[][][] seen, int[] partners, int i, int j, int k) {
+    if (!seen[i][j][k]) {
+      seen[i][j][k] = true;
+      places.add(new int[] {i, j, k});
+      tie(places, seen, partners, j, i, k);
+      tie(places, seen, partners, partners[i], k, j);
+    }
+  }
+
+  private static void fillTied(int[][][] n, int most, List<List<int[]>> tied, int at) {
+    if (at == tied.size()) {
+      if (Model.fault(n)[0] == 0) {
+        rankFive++;
+        askRenamed(n, rankFive);
+      }
+      return;
+    }
+    for (int v = 0; v <= most; v++) {
+      for (int[] place : tied.get(at)) {
+        n[place[0]][place[1]][place[2]] = v;
+      }
+      fillTied(n, most, tied, at + 1);
+    }
+  }
+
+  /** A RIGHT table is asked as it is, and with its KINDS named anew. */
+  private static void askRenamed(int[][][] n, int seed) {
+    Pair pair = new Pair(5000 + seed);
+    pair.call("rank", 0, n.length);
+    for (int i = 0; i < n.length; i++) {
+      for (int j = 0; j < n.length; j++) {
+        for (int k = 0; k < n.length; k++) {
+          pair.call("put", 0, i, j, k, n[i][j][k]);
+        }
+      }
+    }
+    pair.rename(0, 1);
+    askRow(pair, 0);
+    askRow(pair, 1);
+  }
+
+  /** As askAll does, but by two primes alone and within the calls that an object has. */
+  private static void askRow(Pair pair, int t) {
+    int r = pair.model.tables[t].length;
+    pair.call("fault", t, 0);
+    for (int q : new int[] {5, 11}) {
+      pair.call("maps", t, q);
+      for (int i = 0; i < r; i++) {
+        pair.call("partner", t, i);
+        pair.call("grade", t, i);
+        pair.call("map", t, q, i / 2, i);
+        pair.call("map", t, q, 4, i);
+      }
+    }
+    for (int set = 0; set < 1 << r; set++) {
+      pair.call(set % 3 == 0 ? "least" : "closed", t, set);
+    }
+    pair.call("core", t);
+    pair.call("within", t);
+    pair.call("size", t);
+    pair.call("like", t, t);
+  }
+
+  /** The characters of all turns of a cube, multiplied: RANK 5, and each KIND its own PARTNER. */
+  private static void cubeTurns() {
+    int[] members = {1, 3, 6, 8, 6};
+    int[][] characters = {
+        {1, 1, 1, 1, 1}, {1, 1, -1, 1, -1}, {2, 2, 0, -1, 0}, {3, -1, 1, 0, -1}, {3, -1, -1, 0, 1}};
+    int[][][] n = new int[5][5][5];
+    for (int i = 0; i < 5; i++) {
+      for (int j = 0; j < 5; j++) {
+        for (int k = 0; k < 5; k++) {
+          for (int c = 0; c < 5; c++) {
+            n[i][j][k] += members[c] * characters[i][c] * characters[j][c] * characters[k][c];
+          }
+          n[i][j][k] /= 24;
+        }
+      }
+    }
+    for (int seed = 0; seed < 12; seed++) {
+      askRenamed(n, seed);
+    }
+  }
+
   private static void askAll(Pair pair, int t) {
     int r = pair.model.tables[t].length;
     for (int q : PRIMES) {
@@ -848,6 +953,13 @@ public final class ModelTest {
     }
     allListed();
     allGroupsAndNear();
+    allOfRankFive(1, 0, 2, 1, 3, 4);
+    allOfRankFive(2, 0, 2, 1, 4, 3);
+    cubeTurns();
+    if (rankFive != 14) {
+      wrong++;
+      System.out.println("tables of rank 5 found: " + rankFive);
+    }
     System.out.println(wrong == 0 ? "all runs agree with the model" : wrong + " answers differ");
     if (wrong != 0) {
       System.exit(1);
